@@ -9,6 +9,7 @@ public final class ReadingTest {
         orderOfTests();
         wrongDialects();
         roundTrips();
+        oneAfterTheOther();
         leavesTheRest();
         Kit.finish();
     }
@@ -92,6 +93,7 @@ public final class ReadingTest {
         refuses(2, ",,,,,", CsvDialect.FULL);
         refuses(2, "a\n,,,,,\nb", CsvDialect.FULL);
         reads(2, "abcdea,\"\"\"\"\"\"\"\"\"\"\"\"\"\"", 1, "[abcdea|\"\"\"\"\"\"]");
+        reads(2, "abcde\nabcde,abcde\n", 2, "[abcde][abcde|abcde]");
         refuses(2, "abcdeab", CsvDialect.FULL);
         refuses(2, "a,b\nabcdeab,b", CsvDialect.FULL);
         refuses(2, "\"abcdeab\"", CsvDialect.FULL);
@@ -132,6 +134,27 @@ public final class ReadingTest {
             Kit.due("read(" + d + ") of a writing", x.read(d), 4);
             Kit.due("the table read back in " + d, Kit.tableOf(x), before);
         }
+    }
+
+    private static void oneAfterTheOther() {
+        CsvDialect x = Kit.withRaw("abcdeab");
+        Kit.due("read(2) of a long field", x.read(2), CsvDialect.FULL);
+        x.rawClear();
+        Kit.raw(x, ",,,,,");
+        Kit.due("read(2) of many fields", x.read(2), CsvDialect.FULL);
+        x.rawClear();
+        Kit.raw(x, "\n\n\n\n\n\n\n");
+        Kit.due("read(2) of many records", x.read(2), CsvDialect.FULL);
+        x.rawClear();
+        Kit.raw(x, "abc,d\ne\n\"");
+        Kit.due("read(2) of an open quote", x.read(2), CsvDialect.UNREADABLE);
+        x.unraw();
+        Kit.due("read(2) after refusals", x.read(2), 2);
+        Kit.due("the table after refusals", Kit.tableOf(x), "[abc|d][e]");
+        x.rawClear();
+        Kit.raw(x, ",a");
+        Kit.due("read(2) of a smaller table", x.read(2), 1);
+        Kit.due("the smaller table", Kit.tableOf(x), "[|a]");
     }
 
     private static void leavesTheRest() {

@@ -6,6 +6,7 @@ public final class SoundTest {
         }
         quotes();
         ends();
+        oneAfterTheOther();
         wrongDialects();
         Kit.finish();
     }
@@ -65,6 +66,18 @@ public final class SoundTest {
         sound(2, "a\r\n", 1);
         sound(7, "a;\n\r", 3);
         sound(5, "a;\r\n\r", 5);
+    }
+
+    private static void oneAfterTheOther() {
+        CsvDialect x = Kit.withRaw("a,b\r\n\"\\");
+        Kit.due("sound(4)", x.sound(4), 7);
+        Kit.due("sound(2) after sound(4)", x.sound(2), 3);
+        Kit.due("sound(0) after sound(2)", x.sound(0), 6);
+        Kit.due("sound(8)", x.sound(8), CsvDialect.BAD_ARG);
+        x.raw(0);
+        Kit.due("sound(4) with one character more", x.sound(4), 7);
+        x.rawClear();
+        Kit.due("sound(0) of nothing", x.sound(0), 0);
     }
 
     private static void wrongDialects() {

@@ -6,6 +6,7 @@ public final class WritingTest {
         dialects();
         plainAndQuoted();
         emptyFields();
+        changedFields();
         wrongDialects();
         limit();
         longest();
@@ -64,6 +65,19 @@ public final class WritingTest {
         Kit.row(x, "");
         writes(x, 2, "\"\"\n,\n,a,\n\"\"\n");
         writes(x, 1, "\"\"\r\n;\r\n;a;\r\n\"\"\r\n");
+    }
+
+    private static void changedFields() {
+        CsvDialect x = new CsvDialect();
+        Kit.row(x, "a,\"", "b\n");
+        Kit.draft(x, "c");
+        x.put(0, 0);
+        Kit.draft(x, "d");
+        x.put(0, 1);
+        writes(x, 0, "c,d\r\n");
+        x.clear();
+        Kit.row(x, "e");
+        writes(x, 2, "e\n");
     }
 
     private static void wrongDialects() {
