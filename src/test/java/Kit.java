@@ -1,3 +1,5 @@
+import java.util.Arrays;
+
 /** What the tests share: the count of wrong answers, and texts in place of numbers. */
 final class Kit {
     /** The character with the number n stands at n: five letters, then , ; " CR LF and the escape. */
@@ -95,6 +97,19 @@ final class Kit {
             text.append(']');
         }
         return text.toString();
+    }
+
+    /**
+     * Numbers out of the range low to high: the next ones on both sides, some that would be in it if only their low
+     * bits were looked at, and the outermost ones.
+     */
+    static int[] outside(int low, int high) {
+        int[] numbers = {
+            low - 1, low - 2, low - 16, high + 1, high + 2, high + 16, low + 256, high + 256, high - 256,
+            low + (1 << 16), high + (1 << 16), high - (1 << 16), low + (1 << 30), high - (1 << 30),
+            Integer.MIN_VALUE, Integer.MIN_VALUE + high, Integer.MAX_VALUE - 1, Integer.MAX_VALUE,
+        };
+        return Arrays.stream(numbers).filter(n -> n < low || n > high).distinct().toArray();
     }
 
     private static char letter(int c) {

@@ -21,9 +21,19 @@ final class Model {
         }
     }
 
-    private List<List<String>> table = new ArrayList<>();
-    private String draft = "";
-    private String raw = "";
+    private List<List<String>> table;
+    private String raw;
+    private String draft;
+
+    Model() {
+        this(new ArrayList<>(), "", "");
+    }
+
+    Model(List<List<String>> table, String raw, String draft) {
+        this.table = table;
+        this.raw = raw;
+        this.draft = draft;
+    }
 
     private static String separator(int d) {
         return d % 2 == 1 ? ";" : ",";
@@ -280,6 +290,10 @@ final class Model {
             }
         }
         return best;
+    }
+
+    State state() {
+        return new State(tableText(), raw, draft);
     }
 
     String rawText() {
