@@ -330,7 +330,8 @@ public final class CsvDialect {
         int place = r * MAX_FIELDS + f;
         int count = fieldSizes[place];
         int beforeQuote = hasEscape(d) ? ESCAPE : QUOTE;
-        boolean quoted = needsQuotes(d, r, f);
+        int separator = separatorOf(d);
+        boolean quoted = needsQuotes(separator, r, f);
         if (quoted) {
             emit(QUOTE);
         }
@@ -346,9 +347,8 @@ public final class CsvDialect {
         }
     }
 
-    private boolean needsQuotes(int d, int r, int f) {
+    private boolean needsQuotes(int separator, int r, int f) {
         int place = r * MAX_FIELDS + f;
-        int separator = separatorOf(d);
         for (int i = 0; i < fieldSizes[place]; i++) {
             int c = characters[place * MAX_SIZE + i];
             if (c == separator || c == QUOTE || c == RETURN || c == LINE_FEED) {
